@@ -465,6 +465,31 @@ public final class PromisesTest {
         before.make();
         shortcuts(before, a(0, 1, 2, 3), a(0, 2, 11, 3), a(0, 2, 3, 1));
         due("16 by the later one", before.climb(0, 2), 3);
+        fullStar();
+    }
+
+    /** Sixteen nodes, all arcs to the last one and from it: a shortcut for each two others. */
+    private static void fullStar() {
+        DistanceLabels x = net(16);
+        int[][] all = new int[15 * 14][];
+        int came = 0;
+        for (int u = 0; u < 15; u++) {
+            x.arc(u, 15, 1 + u);
+            x.arc(15, u, 1000 - u);
+            for (int w = 0; w < 15; w++) {
+                if (u != w) {
+                    all[came++] = a(u, w, 1 + u + 1000 - w, 15);
+                }
+            }
+        }
+        x.make();
+        shortcuts(x, all);
+        due("9 OUT of the last of sixteen", x.label(0, 15, -1, 0), 16);
+        due("9 IN of the last of sixteen", x.label(1, 15, -1, 0), 16);
+        x.landmark(15, true);
+        due("18 by the last of sixteen", x.least(14, 0), 14);
+        due("19 by the last of sixteen", x.most(14, 0), 1015);
+        due("19 of the last of sixteen", x.most(15, 15), 0);
     }
 
     private static void promise16() {
