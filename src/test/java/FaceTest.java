@@ -82,14 +82,15 @@ public final class FaceTest {
         String text = Files.readString(Path.of("src/main/java/DistanceLabels.java"));
         String code = text.replaceAll("(?s)/\\*.*?\\*/", "").replaceAll("//[^\n]*", "");
         Matcher words = Pattern.compile(
-            "\\b(throw|throws|try|catch|synchronized|assert|package|hashCode|equals|toString|System)\\b|->|::")
+            "\\b(throw|throws|try|catch|synchronized|assert|package|hashCode|\\w+Exact|System\\.(?!arraycopy)\\w+)\\b|::")
             .matcher(code);
         while (words.find()) {
             due("the source has", words.group(), "nothing of that kind");
         }
         Matcher imports = Pattern.compile("import[^;]*;").matcher(code);
         while (imports.find()) {
-            due("import", imports.group(), "import java.util.Arrays;");
+            boolean isListed = imports.group().matches("import java\\.util\\.(Arrays|ArrayList|List|Iterator);");
+            due(imports.group() + " is of the library that LANGUAGE.md lists", isListed, true);
         }
     }
 }

@@ -12,45 +12,36 @@ import java.util.TreeMap;
  * Runs of calls drawn with told seeds, each answered by a model too that goes by the document's words alone:
  * it writes down every way one by one, and looks among them.
  */
-public final class ModelTest {
-    private static final int NONE = -1, BAD = -2, FULL = -3, TURN = -4;
+public final class ModelTest extends Due {
     private static final int RUNS = 600;
-    private static final int CALLS = 512;
-    private static int wrong = 0;
+    private static final int FULL_NETS = 40;
 
     public static void main(String[] args) {
-        for (int run = 0; run < RUNS && wrong < 20; run++) {
+        for (int run = 0; run < RUNS && wrongSoFar() < 20; run++) {
             oneRun(run);
         }
-        for (int run = 0; run < 40 && wrong < 20; run++) {
+        for (int run = 0; run < FULL_NETS && wrongSoFar() < 20; run++) {
             fullNet(run);
         }
-        System.out.println(wrong == 0 ? "all answers are the model's" : "some answers are not the model's");
-        if (wrong != 0) {
-            System.exit(1);
-        }
+        end();
     }
 
     private static boolean differs(int run, String call, int got, int want) {
-        if (got == want) {
-            return false;
-        }
-        wrong++;
-        System.out.println("run " + run + ": " + call + " answered " + got + ", the model's is " + want);
-        return true;
+        due("run " + run + ": " + call, got, want);
+        return got != want;
     }
 
     /** Small nets with short lengths, so that there are many ways of one length. */
     private static void oneRun(int run) {
         Random dice = new Random(run);
-        DistanceLabels x = new DistanceLabels();
+        Watched x = new Watched();
         Model m = new Model();
         int size = 1 + dice.nextInt(6);
         int longest = run % 4 == 0 ? 1000 : 1 + dice.nextInt(6);
         for (int i = 0; i < size; i++) {
             differs(run, "node()", x.node(), m.node());
         }
-        for (int i = 0; i < CALLS - size; i++) {
+        while (x.callsLeft() > 0) {
             if (oneCall(run, dice, x, m, longest)) {
                 return;
             }
@@ -61,7 +52,7 @@ public final class ModelTest {
         return dice.nextInt(25) == 0 ? dice.nextInt(40) - 12 : dice.nextInt(Math.max(1, m.nodes));
     }
 
-    private static boolean oneCall(int run, Random dice, DistanceLabels x, Model m, int longest) {
+    private static boolean oneCall(int run, Random dice, Watched x, Model m, int longest) {
         int a = some(dice, m);
         int b = some(dice, m);
         int k = dice.nextInt(8) - 2;
@@ -120,22 +111,28 @@ public final class ModelTest {
     /** Sixteen nodes, thick and thin: three tellings of one distance must agree with a plain relaxation. */
     private static void fullNet(int run) {
         Random dice = new Random(1000 + run);
-        DistanceLabels x = new DistanceLabels();
-        int[][] far = new int[16][16];
+        int[][] lengths = new int[16][16];
+        int[] ranks = new int[16];
         for (int a = 0; a < 16; a++) {
-            x.node();
-        }
-        for (int a = 0; a < 16; a++) {
+            ranks[a] = dice.nextInt(16);
             for (int b = 0; b < 16; b++) {
-                far[a][b] = a == b ? 0 : 1 << 20;
-                if (a != b && dice.nextInt(20) <= run / 2) {
-                    far[a][b] = 1 + dice.nextInt(run % 2 == 0 ? 5 : 1000);
-                    x.arc(a, b, far[a][b]);
-                }
+                boolean isArc = a != b && dice.nextInt(20) <= run / 2;
+                lengths[a][b] = isArc ? 1 + dice.nextInt(run % 2 == 0 ? 5 : 1000) : 0;
             }
         }
+        int[][] far = relaxed(lengths);
+        // All of it is more than one object may be asked.
         for (int a = 0; a < 16; a++) {
-            x.rank(a, dice.nextInt(16));
+            fullRow(run, a, laid(lengths, ranks), far[a]);
+        }
+    }
+
+    private static int[][] relaxed(int[][] lengths) {
+        int[][] far = new int[16][16];
+        for (int a = 0; a < 16; a++) {
+            for (int b = 0; b < 16; b++) {
+                far[a][b] = a == b ? 0 : lengths[a][b] > 0 ? lengths[a][b] : 1 << 20;
+            }
         }
         for (int round = 0; round < 16; round++) {
             for (int a = 0; a < 16; a++) {
@@ -146,15 +143,32 @@ public final class ModelTest {
                 }
             }
         }
-        x.make();
-        differs(run, "check()", x.check(), NONE);
+        return far;
+    }
+
+    private static Watched laid(int[][] lengths, int[] ranks) {
+        Watched x = net(16);
         for (int a = 0; a < 16; a++) {
             for (int b = 0; b < 16; b++) {
-                int want = far[a][b] >= 1 << 20 ? NONE : far[a][b];
-                differs(run, "ask(" + a + ", " + b + ")", x.ask(a, b), want);
-                differs(run, "climb(" + a + ", " + b + ")", x.climb(a, b), want);
-                differs(run, "way's end", x.way(a, b, Math.max(0, x.way(a, b, -1) - 1)), want == NONE ? NONE : b);
+                if (lengths[a][b] > 0) {
+                    x.arc(a, b, lengths[a][b]);
+                }
             }
+        }
+        for (int a = 0; a < 16; a++) {
+            x.rank(a, ranks[a]);
+        }
+        x.make();
+        return x;
+    }
+
+    private static void fullRow(int run, int a, Watched x, int[] far) {
+        differs(run, "check()", x.check(), NONE);
+        for (int b = 0; b < 16; b++) {
+            int want = far[b] >= 1 << 20 ? NONE : far[b];
+            differs(run, "ask(" + a + ", " + b + ")", x.ask(a, b), want);
+            differs(run, "climb(" + a + ", " + b + ")", x.climb(a, b), want);
+            differs(run, "way's end", x.way(a, b, Math.max(0, x.way(a, b, -1) - 1)), want == NONE ? NONE : b);
         }
     }
 

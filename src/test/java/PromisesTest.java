@@ -1,41 +1,5 @@
 /** Each promise by hand: ordinary inputs, the edges that the document names, and wrong inputs. */
-public final class PromisesTest {
-    private static final int NONE = -1, BAD = -2, FULL = -3, TURN = -4;
-    private static final int LOW = Integer.MIN_VALUE, HIGH = Integer.MAX_VALUE;
-    private static int wrong = 0;
-
-    private static void due(String call, int got, int want) {
-        if (got != want) {
-            wrong++;
-            System.out.println(call + " answered " + got + ", due is " + want);
-        }
-    }
-
-    private static DistanceLabels net(int nodes, int[]... arcs) {
-        DistanceLabels x = new DistanceLabels();
-        for (int i = 0; i < nodes; i++) {
-            x.node();
-        }
-        for (int[] arc : arcs) {
-            x.arc(arc[0], arc[1], arc[2]);
-        }
-        return x;
-    }
-
-    private static int[] a(int... numbers) {
-        return numbers;
-    }
-
-    /** 0 -> 1 -> 2 -> 3 with a longer arc from 0 to 2. */
-    private static DistanceLabels chain() {
-        return net(4, a(0, 1, 2), a(1, 2, 3), a(2, 3, 4), a(0, 2, 9));
-    }
-
-    /** Two least ways from 0 to 3, by 1 and by 2. */
-    private static DistanceLabels diamond() {
-        return net(4, a(0, 1, 1), a(1, 3, 1), a(0, 2, 1), a(2, 3, 1));
-    }
-
+public final class PromisesTest extends Due {
     public static void main(String[] args) {
         constants();
         promise1();
@@ -58,10 +22,7 @@ public final class PromisesTest {
         promise20();
         turns();
         turnBeforeBad();
-        System.out.println(wrong == 0 ? "all answers are as due" : wrong + " answers are not as due");
-        if (wrong != 0) {
-            System.exit(1);
-        }
+        end();
     }
 
     private static void constants() {
@@ -72,7 +33,7 @@ public final class PromisesTest {
     }
 
     private static void promise1() {
-        DistanceLabels x = new DistanceLabels();
+        Watched x = new Watched();
         for (int what = 0; what < 4; what++) {
             due("1 count(" + what + ")", x.count(what), 0);
         }
@@ -86,13 +47,13 @@ public final class PromisesTest {
         due("1 ask(0, 0)", x.ask(0, 0), BAD);
         due("1 label(0, 0, -1, 0)", x.label(0, 0, -1, 0), BAD);
         due("1 shortcut(-1, 0)", x.shortcut(-1, 0), 0);
-        DistanceLabels y = net(3, a(0, 1, 1));
+        Watched y = net(3, a(0, 1, 1));
         y.landmark(0, true);
-        due("1 another object's count(0)", new DistanceLabels().count(0), 0);
+        due("1 another object's count(0)", new Watched().count(0), 0);
     }
 
     private static void promise2() {
-        DistanceLabels x = new DistanceLabels();
+        Watched x = new Watched();
         for (int i = 0; i < 16; i++) {
             due("2 node()", x.node(), i);
             due("2 ranked(" + i + ")", x.ranked(i), i);
@@ -102,7 +63,7 @@ public final class PromisesTest {
         due("2 node() too many", x.node(), FULL);
         due("2 count(0) full", x.count(0), 16);
         due("2 count(3) behind FULL", x.count(3), 1);
-        DistanceLabels y = net(2);
+        Watched y = net(2);
         y.rank(1, 0);
         due("2 node() behind rank()", y.node(), 2);
         due("2 ranked(2)", y.ranked(2), 2);
@@ -110,7 +71,7 @@ public final class PromisesTest {
     }
 
     private static void promise3() {
-        DistanceLabels x = net(3);
+        Watched x = net(3);
         due("3 arc new", x.arc(0, 1, 1), NONE);
         due("3 arc again", x.arc(0, 1, 1000), 1);
         due("3 arc again the same", x.arc(0, 1, 1000), 1000);
@@ -129,7 +90,7 @@ public final class PromisesTest {
     }
 
     private static void promise4() {
-        DistanceLabels x = chain();
+        Watched x = chain();
         x.make();
         due("4 lose none", x.lose(1, 0), NONE);
         due("4 lose one node", x.lose(1, 1), BAD);
@@ -149,7 +110,7 @@ public final class PromisesTest {
         due("4 arc(1, 2, 5)", x.arc(1, 2, 5), NONE);
     }
 
-    private static void row(DistanceLabels x, int... nodes) {
+    private static void row(Watched x, int... nodes) {
         for (int k = 0; k < nodes.length; k++) {
             due("6 ranked(" + k + ")", x.ranked(k), nodes[k]);
         }
@@ -157,7 +118,7 @@ public final class PromisesTest {
     }
 
     private static void promise5and6() {
-        DistanceLabels x = net(5);
+        Watched x = net(5);
         row(x, 0, 1, 2, 3, 4);
         due("5 rank(1, 3)", x.rank(1, 3), 1);
         row(x, 0, 2, 3, 1, 4);
@@ -183,7 +144,7 @@ public final class PromisesTest {
     }
 
     private static void promise7() {
-        DistanceLabels x = net(6);
+        Watched x = net(6);
         x.make();
         due("7 landmark(0, false)", x.landmark(0, false), 0);
         due("7 landmark(0, true)", x.landmark(0, true), 0);
@@ -209,10 +170,10 @@ public final class PromisesTest {
     }
 
     private static void promise8() {
-        due("8 no nodes", new DistanceLabels().make(), 0);
+        due("8 no nodes", new Watched().make(), 0);
         due("8 no arcs", net(16).make(), 32);
         due("8 chain", chain().make(), 14);
-        DistanceLabels x = diamond();
+        Watched x = diamond();
         // OUT: itself each, 4. IN: 0 | 0 1 | 0 2 | 0 1 2 3.
         due("8 diamond", x.make(), 13);
         // Row 2 0 1 3: 2 lies on one of two least ways from 0 to 3.
@@ -221,7 +182,7 @@ public final class PromisesTest {
         due("8 make() again", x.make(), 12);
     }
 
-    private static void label(DistanceLabels x, int side, int v, int... stations) {
+    private static void label(Watched x, int side, int v, int... stations) {
         String of = "9 label(" + side + ", " + v + ", ";
         due(of + "-1, 0)", x.label(side, v, -1, 0), stations.length / 2);
         due(of + "-1, 99)", x.label(side, v, -1, 99), stations.length / 2);
@@ -239,7 +200,7 @@ public final class PromisesTest {
     }
 
     private static void promise9() {
-        DistanceLabels x = chain();
+        Watched x = chain();
         x.make();
         label(x, 0, 0, 0, 0);
         label(x, 0, 3, 3, 0);
@@ -253,7 +214,7 @@ public final class PromisesTest {
         label(x, 0, 1, 3, 7, 2, 3, 1, 0);
         label(x, 1, 3, 3, 0);
         label(x, 1, 1, 0, 2, 1, 0);
-        DistanceLabels y = diamond();
+        Watched y = diamond();
         y.rank(2, 0);
         y.make();
         label(y, 0, 0, 2, 1, 0, 0);
@@ -270,7 +231,7 @@ public final class PromisesTest {
     }
 
     private static void promise10and11() {
-        DistanceLabels x = chain();
+        Watched x = chain();
         x.make();
         due("10 ask(0, 3)", x.ask(0, 3), 9);
         due("11 meeting(0, 3)", x.meeting(0, 3), 0);
@@ -288,7 +249,7 @@ public final class PromisesTest {
         due("10 ask(0, 3) by 2", x.ask(0, 3), 9);
         due("11 meeting(0, 3) by 2", x.meeting(0, 3), 2);
         due("11 meeting(0, 1) by 2", x.meeting(0, 1), 0);
-        DistanceLabels y = diamond();
+        Watched y = diamond();
         y.rank(2, 0);
         y.rank(1, 1);
         y.make();
@@ -303,7 +264,7 @@ public final class PromisesTest {
     }
 
     private static void promise12() {
-        DistanceLabels x = chain();
+        Watched x = chain();
         x.make();
         due("12 the first make()", x.redone(), 14);
         x.make();
@@ -328,12 +289,12 @@ public final class PromisesTest {
         x.arc(2, 3, 6);
         x.make();
         due("12 damage undone and an arc", x.redone(), 3);
-        DistanceLabels y = net(2);
+        Watched y = net(2);
         y.make();
         y.rank(1, 0);
         y.make();
         due("12 another order alone", y.redone(), 0);
-        DistanceLabels z = net(2, a(0, 1, 5), a(1, 0, 5));
+        Watched z = net(2, a(0, 1, 5), a(1, 0, 5));
         z.make();
         z.rank(1, 0);
         z.make();
@@ -342,7 +303,7 @@ public final class PromisesTest {
     }
 
     private static void promise13() {
-        DistanceLabels x = chain();
+        Watched x = chain();
         x.make();
         due("13 damage up", x.damage(1, 3, 1, 5), 12);
         due("13 label", x.label(1, 3, 1, 1), 12);
@@ -383,7 +344,7 @@ public final class PromisesTest {
     }
 
     private static void promise14() {
-        DistanceLabels x = chain();
+        Watched x = chain();
         x.make();
         due("14 whole", x.check(), NONE);
         x.damage(1, 3, 1, 1);
@@ -400,19 +361,19 @@ public final class PromisesTest {
         due("14 mended by hand", x.check(), NONE);
         x.damage(1, 2, 0, -1);
         due("14 too little", x.check(), 2);
-        DistanceLabels y = diamond();
+        Watched y = diamond();
         y.rank(2, 0);
         y.rank(1, 1);
         y.make();
         y.damage(1, 3, 0, 4);
         due("14 another station tells (0, 3), none (2, 3)", y.check(), 2 * 16 + 3);
-        DistanceLabels z = net(16);
+        Watched z = net(16);
         z.make();
         z.damage(0, 15, 0, 1);
         due("14 the last pair", z.check(), 255);
     }
 
-    private static void shortcuts(DistanceLabels x, int[]... all) {
+    private static void shortcuts(Watched x, int[]... all) {
         due("15 shortcut(-1, 0)", x.shortcut(-1, 0), all.length);
         due("15 shortcut(-1, 9)", x.shortcut(-1, 9), all.length);
         due("15 shortcut(-1, LOW)", x.shortcut(-1, LOW), all.length);
@@ -431,7 +392,7 @@ public final class PromisesTest {
     }
 
     private static void promise15() {
-        DistanceLabels x = net(3, a(0, 2, 1), a(2, 1, 1));
+        Watched x = net(3, a(0, 2, 1), a(2, 1, 1));
         x.make();
         shortcuts(x, a(0, 1, 2, 2));
         x.arc(0, 1, 3);
@@ -442,22 +403,22 @@ public final class PromisesTest {
         x.make();
         shortcuts(x);
         // There and back is no shortcut.
-        DistanceLabels back = net(2, a(0, 1, 1), a(1, 0, 1));
+        Watched back = net(2, a(0, 1, 1), a(1, 0, 1));
         back.make();
         shortcuts(back);
         // A way around by a node that has gone is none.
-        DistanceLabels gone = net(4, a(0, 3, 1), a(3, 1, 1), a(0, 2, 1), a(2, 1, 1));
+        Watched gone = net(4, a(0, 3, 1), a(3, 1, 1), a(0, 2, 1), a(2, 1, 1));
         gone.make();
         shortcuts(gone, a(0, 1, 2, 2));
         // By u, then w; pairs from 1 to 0 as well.
-        DistanceLabels star = net(4, a(0, 3, 1), a(1, 3, 2), a(2, 3, 3), a(3, 0, 10), a(3, 1, 20), a(3, 2, 30));
+        Watched star = net(4, a(0, 3, 1), a(1, 3, 2), a(2, 3, 3), a(3, 0, 10), a(3, 1, 20), a(3, 2, 30));
         star.make();
         shortcuts(star, a(0, 1, 21, 3), a(0, 2, 31, 3), a(1, 0, 12, 3), a(1, 2, 32, 3), a(2, 0, 13, 3), a(2, 1, 23, 3));
         star.rank(3, 0);
         star.make();
         shortcuts(star);
         // As it was before 3 went: the shortcut from 0 to 1 is no part of a way around from 0 to 2.
-        DistanceLabels before = net(4, a(0, 3, 1), a(3, 2, 10), a(3, 1, 1), a(1, 2, 1));
+        Watched before = net(4, a(0, 3, 1), a(3, 2, 10), a(3, 1, 1), a(1, 2, 1));
         before.make();
         shortcuts(before, a(0, 1, 2, 3), a(0, 2, 11, 3));
         // A shortcut in the place of a shortcut comes as one more.
@@ -469,21 +430,33 @@ public final class PromisesTest {
     }
 
     /** Sixteen nodes, all arcs to the last one and from it: a shortcut for each two others. */
-    private static void fullStar() {
-        DistanceLabels x = net(16);
-        int[][] all = new int[15 * 14][];
-        int came = 0;
+    private static Watched star16() {
+        Watched x = net(16);
         for (int u = 0; u < 15; u++) {
             x.arc(u, 15, 1 + u);
             x.arc(15, u, 1000 - u);
+        }
+        x.make();
+        return x;
+    }
+
+    private static void fullStar() {
+        int came = 0;
+        for (int u = 0; u < 15; u++) {
+            Watched x = star16();
+            due("15 how many of the star", x.shortcut(-1, 0), 15 * 14);
             for (int w = 0; w < 15; w++) {
                 if (u != w) {
-                    all[came++] = a(u, w, 1 + u + 1000 - w, 15);
+                    due("15 from", x.shortcut(came, 0), u);
+                    due("15 to", x.shortcut(came, 1), w);
+                    due("15 length", x.shortcut(came, 2), 1 + u + 1000 - w);
+                    due("15 by", x.shortcut(came, 3), 15);
+                    came++;
                 }
             }
         }
-        x.make();
-        shortcuts(x, all);
+        Watched x = star16();
+        due("15 behind the last of the star", x.shortcut(came, 0), BAD);
         due("9 OUT of the last of sixteen", x.label(0, 15, -1, 0), 16);
         due("9 IN of the last of sixteen", x.label(1, 15, -1, 0), 16);
         x.landmark(15, true);
@@ -493,7 +466,7 @@ public final class PromisesTest {
     }
 
     private static void promise16() {
-        DistanceLabels x = chain();
+        Watched x = chain();
         x.make();
         due("16 climb(0, 3)", x.climb(0, 3), 9);
         due("16 climb(0, 2)", x.climb(0, 2), 5);
@@ -505,7 +478,7 @@ public final class PromisesTest {
         due("16 climb(0, 3) by a shortcut", x.climb(0, 3), 9);
         due("16 climb(1, 3)", x.climb(1, 3), 7);
         // 1 and 2 are both greater in rank than 0: down to it and up again.
-        DistanceLabels y = net(3, a(1, 0, 4), a(0, 2, 5));
+        Watched y = net(3, a(1, 0, 4), a(0, 2, 5));
         y.make();
         due("16 down and up", y.climb(1, 2), 9);
         due("16 down alone", y.climb(1, 0), 4);
@@ -517,7 +490,7 @@ public final class PromisesTest {
         }
     }
 
-    private static void ways(DistanceLabels x, int... nodes) {
+    private static void ways(Watched x, int... nodes) {
         int from = nodes[0];
         int to = nodes[nodes.length - 1];
         due("17 way's nodes", x.way(from, to, -1), nodes.length);
@@ -531,7 +504,7 @@ public final class PromisesTest {
     }
 
     private static void promise17() {
-        DistanceLabels x = chain();
+        Watched x = chain();
         x.make();
         ways(x, 0, 1, 2, 3);
         ways(x, 1, 2);
@@ -544,19 +517,19 @@ public final class PromisesTest {
             due("17 way(" + b[0] + ", " + b[1] + ", 0)", x.way(b[0], b[1], 0), BAD);
             due("17 way(" + b[0] + ", " + b[1] + ", -1)", x.way(b[0], b[1], -1), BAD);
         }
-        DistanceLabels y = diamond();
+        Watched y = diamond();
         y.rank(2, 0);
         y.make();
         ways(y, 0, 1, 3);
         // The least number wins, not the fewest nodes: 0 1 2 3 and 0 2 3 and 0 3 are of one length.
-        DistanceLabels z = net(4, a(0, 1, 1), a(1, 2, 1), a(2, 3, 1), a(0, 2, 2), a(0, 3, 3));
+        Watched z = net(4, a(0, 1, 1), a(1, 2, 1), a(2, 3, 1), a(0, 2, 2), a(0, 3, 3));
         z.make();
         ways(z, 0, 1, 2, 3);
         // The end itself may be the least number.
-        DistanceLabels e = net(3, a(2, 0, 2), a(2, 1, 1), a(1, 0, 1));
+        Watched e = net(3, a(2, 0, 2), a(2, 1, 1), a(1, 0, 1));
         e.make();
         ways(e, 2, 0);
-        DistanceLabels long16 = net(16);
+        Watched long16 = net(16);
         int[] all = new int[16];
         for (int i = 0; i < 16; i++) {
             all[i] = 15 - i;
@@ -570,7 +543,7 @@ public final class PromisesTest {
     }
 
     private static void promise18() {
-        DistanceLabels x = chain();
+        Watched x = chain();
         x.make();
         due("18 no landmark", x.least(0, 3), 0);
         due("18 no landmark, no way", x.least(3, 0), 0);
@@ -587,24 +560,24 @@ public final class PromisesTest {
         x.landmark(3, false);
         x.landmark(2, false);
         // 2 is reached from 1, but not from 0.
-        DistanceLabels y = net(4, a(1, 2, 5), a(0, 3, 1));
+        Watched y = net(4, a(1, 2, 5), a(0, 3, 1));
         y.make();
         y.landmark(2, true);
         due("18 one from b, none from a", y.least(0, 1), NONE);
         due("18 one from a, none from b", y.least(1, 0), 0);
         // Only one of the two differences is there.
-        DistanceLabels to = net(3, a(2, 0, 5), a(2, 1, 9));
+        Watched to = net(3, a(2, 0, 5), a(2, 1, 9));
         to.make();
         to.landmark(2, true);
         due("18 from l alone", to.least(0, 1), 4);
         due("18 from l alone, below 0", to.least(1, 0), 0);
-        DistanceLabels from = net(3, a(0, 2, 9), a(1, 2, 5));
+        Watched from = net(3, a(0, 2, 9), a(1, 2, 5));
         from.make();
         from.landmark(2, true);
         due("18 to l alone", from.least(0, 1), 4);
         due("18 to l alone, below 0", from.least(1, 0), 0);
         // The greatest of two landmarks, and SURE by the later of two.
-        DistanceLabels two = net(5, a(2, 0, 5), a(2, 1, 9), a(3, 0, 1), a(3, 1, 7), a(4, 0, 1));
+        Watched two = net(5, a(2, 0, 5), a(2, 1, 9), a(3, 0, 1), a(3, 1, 7), a(4, 0, 1));
         two.make();
         two.landmark(2, true);
         two.landmark(3, true);
@@ -618,7 +591,7 @@ public final class PromisesTest {
     }
 
     private static void promise19() {
-        DistanceLabels x = net(4, a(0, 1, 2), a(1, 2, 3), a(2, 0, 4), a(0, 2, 4), a(2, 3, 1));
+        Watched x = net(4, a(0, 1, 2), a(1, 2, 3), a(2, 0, 4), a(0, 2, 4), a(2, 3, 1));
         x.make();
         due("19 no landmark", x.most(0, 2), NONE);
         x.landmark(1, true);
@@ -643,7 +616,7 @@ public final class PromisesTest {
     }
 
     private static void promise20() {
-        DistanceLabels x = chain();
+        Watched x = chain();
         x.landmark(1, true);
         x.landmark(3, true);
         due("20 count(0)", x.count(0), 4);
@@ -660,7 +633,7 @@ public final class PromisesTest {
         due("20 count(HIGH)", x.count(HIGH), BAD);
     }
 
-    private static void all(String behind, DistanceLabels x, int n, boolean turn) {
+    private static void all(String behind, Watched x, int n, boolean turn) {
         int[] got = {
             x.label(0, n, -1, 0), x.ask(0, n), x.meeting(n, 0), x.redone(), x.damage(0, n, 0, 1), x.check(),
             x.shortcut(9999, 0), x.climb(n, 0), x.way(0, n, 0), x.least(0, n), x.most(n, n)};
@@ -674,7 +647,7 @@ public final class PromisesTest {
     }
 
     private static void turns() {
-        DistanceLabels x = new DistanceLabels();
+        Watched x = new Watched();
         all("nothing", x, 0, true);
         x.make();
         all("make()", x, 0, false);
@@ -707,7 +680,7 @@ public final class PromisesTest {
     }
 
     private static void turnBeforeBad() {
-        DistanceLabels x = chain();
+        Watched x = chain();
         all("wrong nodes without make()", x, 99, true);
         x.make();
         all("wrong nodes with make()", x, 99, false);
