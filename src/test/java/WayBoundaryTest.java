@@ -127,6 +127,14 @@ public final class WayBoundaryTest extends Due {
         y.make();
         // As 3 goes the way by 2 is as long; as 2 goes nothing is left but the arc of 9.
         shortcuts("an arc that is too long, another way that is not", y, a(0, 1, 4, 2));
+        // Those that are there have the greatest numbers here: 4, 3 and 2, as 0 goes.
+        Watched z = net(5, a(2, 0, 5), a(0, 4, 5), a(2, 3, 5), a(3, 4, 5));
+        order(z, 4, 3, 2, 0, 1);
+        z.make();
+        shortcuts("two arcs, as long, by great numbers", z);
+        z.arc(3, 4, 6);
+        z.make();
+        shortcuts("two arcs, longer by one, by great numbers", z, a(2, 4, 10, 0));
     }
 
     private static void thoseThatAreThereStill() {
@@ -299,6 +307,10 @@ public final class WayBoundaryTest extends Due {
         order(x, 2, 1, 0);
         x.make();
         due("16 0 went first", x.climb(1, 2), 9);
+        due("16 two steps down are less than one", made(3, a(2, 0, 10), a(2, 1, 1), a(1, 0, 1)).climb(2, 0), 2);
+        due("16 one step down is less than two", made(3, a(2, 0, 10), a(2, 1, 6), a(1, 0, 6)).climb(2, 0), 10);
+        due("16 two steps up are less than one", made(3, a(0, 2, 10), a(0, 1, 1), a(1, 2, 1)).climb(0, 2), 2);
+        due("16 one step up is less than two", made(3, a(0, 2, 10), a(0, 1, 6), a(1, 2, 6)).climb(0, 2), 10);
     }
 
     private static void climbByShortcuts() {
